@@ -19,6 +19,10 @@ public final class TenCoins {
     private static final int BOX_GIVES = 2;
     private static final int MONTHS_PAY = 3;
 
+    private static final int FEAR = 0;
+    private static final int MONTH = 1;
+    private static final int BOX = 2;
+
     private static final int NULL = 1;
     private static final int INDEX = 2;
     private static final int CAST = 3;
@@ -127,36 +131,24 @@ public final class TenCoins {
     }
 
     public long moves(int people, int which, int what) {
-        if (!isPeopleOrAll(people) || !isWithin(which, 2) || !isPart(what)) {
+        if (!isPeopleOrAll(people) || !isWithin(which, BOX) || !isPart(what)) {
             return asLong(BAD);
         }
-        if (which == 0) {
-            return meansApart(people, ANSWER_COUNTS, NONE_MAY_REFUSE, what);
-        }
-        if (which == 1) {
-            return meansApart(people, MONTHS_PAY, ANSWER_COUNTS, what);
-        }
-        return noesApart(people, ANSWER_COUNTS, BOX_GIVES, what);
-    }
-
-    private long meansApart(int people, int kind, int lessKind, int what) {
-        pairs.tally(people, kind, first);
-        pairs.tally(people, lessKind, second);
+        pairs.tally(people, which == MONTH ? MONTHS_PAY : ANSWER_COUNTS, first);
+        pairs.tally(people, lessKind(which), second);
         if (first.many == 0 || second.many == 0) {
             return asLong(NOT);
         }
-        long above = first.sum * second.many - second.sum * first.many;
-        return fraction(above, first.many * second.many, what);
+        int greater = which == BOX ? first.noes : first.sum;
+        int lesser = which == BOX ? second.noes : second.sum;
+        return fraction(greater * second.many - lesser * first.many, first.many * second.many, what);
     }
 
-    private long noesApart(int people, int kind, int lessKind, int what) {
-        pairs.tally(people, kind, first);
-        pairs.tally(people, lessKind, second);
-        if (first.many == 0 || second.many == 0) {
-            return asLong(NOT);
+    private static int lessKind(int which) {
+        if (which == FEAR) {
+            return NONE_MAY_REFUSE;
         }
-        long above = first.noes * second.many - second.noes * first.many;
-        return fraction(above, first.many * second.many, what);
+        return which == MONTH ? ANSWER_COUNTS : BOX_GIVES;
     }
 
     // ---- rows, beliefs
@@ -652,6 +644,16 @@ public final class TenCoins {
         return (int) ((long) MILLION * share / all);
     }
 
+    private static int firstGreatest(int[] brings) {
+        int best = 0;
+        for (int offer = 1; offer < brings.length; offer++) {
+            if (brings[offer] > brings[best]) {
+                best = offer;
+            }
+        }
+        return best;
+    }
+
     /** Offers and answers in the order in which they were told. */
     private static final class Pairs {
         private static final int MOST = 60;
@@ -768,6 +770,7 @@ public final class TenCoins {
 
         private final int[] people = new int[MOST];
         private final int[] bits = new int[MOST];
+        private final int[] brings = new int[OFFERS];
         private int size;
         private int mended;
         private int least;
@@ -831,16 +834,10 @@ public final class TenCoins {
         }
 
         private int bestOffer(int ofPeople) {
-            int best = 0;
-            int most = bring(ofPeople, 0);
-            for (int offer = 1; offer < OFFERS; offer++) {
-                int brings = bring(ofPeople, offer);
-                if (brings > most) {
-                    most = brings;
-                    best = offer;
-                }
+            for (int offer = 0; offer < OFFERS; offer++) {
+                brings[offer] = bring(ofPeople, offer);
             }
-            return best;
+            return firstGreatest(brings);
         }
     }
 
@@ -850,6 +847,7 @@ public final class TenCoins {
 
         private final int[] peopleOf = new int[MOST];
         private final int[] says = new int[MOST * OFFERS];
+        private final int[] brings = new int[OFFERS];
         private int size;
 
         private boolean has(int belief) {
@@ -876,16 +874,10 @@ public final class TenCoins {
         }
 
         private int bestOffer(int belief) {
-            int best = 0;
-            int most = COINS * said(belief, 0);
-            for (int offer = 1; offer < OFFERS; offer++) {
-                int brings = (COINS - offer) * said(belief, offer);
-                if (brings > most) {
-                    most = brings;
-                    best = offer;
-                }
+            for (int offer = 0; offer < OFFERS; offer++) {
+                brings[offer] = (COINS - offer) * said(belief, offer);
             }
-            return best;
+            return firstGreatest(brings);
         }
     }
 
@@ -1031,15 +1023,18 @@ public final class TenCoins {
         private void solve(int anger) {
             Arrays.fill(pick, NONE);
             // Backwards, so that a node is settled ahead of the one it is in.
-            for (int node = nodes - 1; node > 0; node--) {
-                end[node] = owner[node] == NONE ? node : end[pick[node]];
+            for (int node = nodes - 1; node >= 0; node--) {
+                end[node] = pick[node] == NONE ? node : end[pick[node]];
                 int up = within[node];
-                // Not less is enough, for what was picked so far stands behind this one.
-                if (pick[up] == NONE || worth(end[node], owner[up], anger) >= worth(end[pick[up]], owner[up], anger)) {
+                if (up != NONE && (pick[up] == NONE || isNoWorse(node, pick[up], owner[up], anger))) {
                     pick[up] = node;
                 }
             }
-            end[0] = owner[0] == NONE ? 0 : end[pick[0]];
+        }
+
+        /** Like is enough, for what was picked so far stands behind the node, and the first is to be taken. */
+        private boolean isNoWorse(int node, int picked, int player, int anger) {
+            return worth(end[node], player, anger) >= worth(end[picked], player, anger);
         }
 
         private int worth(int ofEnd, int player, int anger) {
@@ -1058,7 +1053,7 @@ public final class TenCoins {
         private int wayLength() {
             int letters = 0;
             int node = 0;
-            for (int step = 0; step < nodes && owner[node] != NONE; step++) {
+            for (int step = 0; step < nodes && pick[node] != NONE; step++) {
                 letters++;
                 node = pick[node];
             }
@@ -1067,7 +1062,7 @@ public final class TenCoins {
 
         private int choiceAt(int i) {
             int node = 0;
-            for (int step = 0; step < nodes && owner[node] != NONE; step++) {
+            for (int step = 0; step < nodes && pick[node] != NONE; step++) {
                 node = pick[node];
                 if (step == i) {
                     return place[node];
