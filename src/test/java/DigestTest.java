@@ -39,7 +39,7 @@ public final class DigestTest {
         x.belief(2);
         x.believe(0, 9, 5);
         x.believe(0, 4, 1);
-        Due.typeAll(x, "g(a(820,000),550)");
+        Due.typeAll(x, "g(a(910,000),a(410,000),333)");
         x.thing(4, 0, 0, 9);
         x.thing(4, 0, 0, 3);
         x.round(4, 0);
@@ -48,7 +48,7 @@ public final class DigestTest {
     }
 
     private static void ofAllThings() {
-        d.due("41: all things", full().digest(), mixed(5, 4, 2, 1, 17, 2, 2, 2, -1,
+        d.due("41: all things", full().digest(), mixed(5, 4, 2, 1, 28, 2, 2, 2, -1,
             3, 1, 1, 0, 0, 0, 0, 0,
             2, 1, 0, 0, 0, 0, 0, 0,
             0, 0, 0, 0, 0, 0, 0, 0,
@@ -57,7 +57,7 @@ public final class DigestTest {
             10, 3, 0,
             1, 8, 10, 0, 6, 10,
             4,
-            8, 2, 0, 2, 3, 2, 5, 5, 0, 2,
+            9, 1, 0, 2, 5, 3, 3, 3, 3, 1,
             1, -1,
             1000000,
             2, 0, 0, 4, 4));

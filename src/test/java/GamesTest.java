@@ -49,6 +49,15 @@ public final class GamesTest {
         d.due("21: on the way", x.reckon(40, 3), 19);
         d.due("22: the last", x.how(40, 18), 0);
         d.due("22: beyond", x.how(40, 19), -1);
+        Due.typeAll(x, "g(".repeat(28) + "123");
+        d.due("20: many open, then an end", x.fault(), 59);
+        d.due("20: nobody's letter", x.reckon(0, 0), -3);
+        TenCoins y = new TenCoins();
+        for (char c : "t(123,456)".toCharArray()) {
+            y.type(c);
+        }
+        d.due("20: never wiped", y.fault(), -1);
+        d.due("21: never wiped", y.reckon(0, 2), 6);
         x.wipe();
         x.type('g' + 128);
         d.due("20: high byte", x.fault(), 0);

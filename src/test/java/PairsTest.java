@@ -53,6 +53,10 @@ public final class PairsTest {
         d.due("2: bad ahead of full", x.pair(0, 0, 11, 1, 999), -2);
         d.due("2: earlier ahead of full", x.pair(0, 0, 1, 1, 998), -2);
         d.due("2: sixty", x.count(0), 60);
+        d.due("40: sixty count", x.count(1), 60);
+        d.due("6: of sixty", x.many(0, 0, 0), 57);
+        x.sheet(0, 0, 48);
+        d.due("39: the last of sixty", x.write(0, 1, 0), 1);
     }
 
     private static void read() {

@@ -38,7 +38,7 @@ public final class PeoplesTest {
         tell(x, 3, 4);
         d.due("24: cut", x.two(1, 3), 333333);
         tell(x, 0, 4, 5, 6, 7, 8, 9, 10, 0, 0);
-        d.due("24: fourteen", x.two(0, 1) >= 0 ? 1 : 0, 1);
+        d.due("24: fourteen, 32 of 91", x.two(0, 1), 351648);
         tell(x, 1, 7);
         d.due("24: fifteen", x.two(0, 1), -4);
         d.due("24: none ahead of full", filled().two(0, 1), -3);
@@ -47,9 +47,13 @@ public final class PeoplesTest {
         tell(y, 1, 10, 10, 10, 10, 10, 10, 10);
         d.due("24: two of 3432", y.two(0, 1), 582);
         d.due("24: likewise", y.two(1, 0), 582);
-        y.asOf(999);
         y.takeBack(0, 1);
-        d.due("24: one less", y.two(0, 1), 582);
+        d.due("24: one of 1716, two ways no more", y.two(0, 1), 582);
+        TenCoins z = new TenCoins();
+        tell(z, 2, 0, 0, 0, 0, 0, 0, 0, 0, 0, 0, 0, 0);
+        tell(z, 3, 10, 10);
+        d.due("24: twelve and two, one of 91", z.two(2, 3), 10989);
+        d.due("24: two and twelve", z.two(3, 2), 10989);
     }
 
     private static TenCoins filled() {
@@ -127,6 +131,10 @@ public final class PeoplesTest {
         d.due("27: more was looked at", z.looked(), 166666);
         z.thing(5, 5, 5, 5);
         d.due("27: what never goes", z.looked(), 166666);
+        for (int k = 3; k < 6; k++) {
+            z.thing(7, 7, 7, 7);
+        }
+        d.due("27: six things", z.looked(), 166666);
     }
 
     private static void story() {
@@ -154,6 +162,9 @@ public final class PeoplesTest {
         x.pair(0, 0, 3, 0, 0);
         d.fraction("29: a small no", x.odds(0, 0, 0), x.odds(0, 0, 1), 3, 7);
         d.fraction("29: others", x.odds(0, 1, 0), x.odds(0, 1, 1), 2, 7);
+        x.pair(3, 0, 0, 0, 0);
+        d.fraction("29: the smallest no", x.odds(3, 0, 0), x.odds(3, 0, 1), 3, 7);
+        x.takeBack(1, 0);
         x.pair(1, 0, 4, 1, 0);
         d.fraction("29: a middle yes", x.odds(1, 1, 0), x.odds(1, 1, 1), 3, 7);
         x.pair(2, 0, 7, 0, 0);

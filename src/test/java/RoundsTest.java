@@ -29,9 +29,12 @@ public final class RoundsTest {
         d.due("30: full", x.round(0, 0), -4);
         d.due("30: bad ahead of full", x.round(11, 0), -2);
         d.due("30: count", x.count(6), 24);
+        d.due("33: could of 24", x.learnt(4), 36);
         d.due("31: there were", x.forget(), 24);
         d.due("31: none", x.forget(), 0);
         d.due("31: got", x.learnt(3), 0);
+        d.due("31: could", x.learnt(4), 0);
+        d.due("31: missed", x.misses(1, 1), 0);
         d.due("30: anew", x.round(5, 1), 1);
     }
 
@@ -69,6 +72,8 @@ public final class RoundsTest {
         law(x, 1, 0, 0, 9, 0, 10, 0, 10, 0);
         law(x, 1, 0, 2, 5, 0, 6, 0, 9, 0);
         law(x, 0, 2, 0, 2, 1, 0, 1);
+        law(x, 0, 1, 0, 2, 1, 1, 1);
+        law(x, 4, 0, 0, 2, 0, 6, 1);
         law(x, 0, 0, 5, 0, 1, 5, 1);
     }
 

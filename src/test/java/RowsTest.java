@@ -23,6 +23,7 @@ public final class RowsTest {
         d.due("10: full", x.row(0, 0), -4);
         d.due("10: bad ahead of full", x.row(0, 2048), -2);
         d.due("10: twelve", x.count(2), 12);
+        d.fraction("12: of twelve", x.taken(-1, 3, 0), x.taken(-1, 3, 1), 1, 1);
     }
 
     private static void line() {
@@ -72,6 +73,8 @@ public final class RowsTest {
         y.row(2, 0b00000100000);
         y.row(2, 0b00000100001);
         d.due("13: of like ones the least", y.best(2), 0);
+        y.row(1, 0b11111111110);
+        d.due("13: one coin", y.best(1), 1);
     }
 
     private static void beliefs() {
@@ -96,6 +99,9 @@ public final class RowsTest {
         d.due("16: ten brings nothing", x.hisBest(7), 0);
         x.believe(7, 9, 10);
         d.due("16: nine", x.hisBest(7), 9);
+        x.believe(5, 1, 9);
+        x.believe(5, 2, 9);
+        d.due("16: one coin", x.hisBest(5), 1);
         x.believe(7, 5, 2);
         d.due("16: of like ones the least", x.hisBest(7), 5);
         x.believe(7, 0, 1);
@@ -129,5 +135,9 @@ public final class RowsTest {
         d.fraction("17: less off", x.off(0, 0, 0), x.off(0, 0, 1), 1, 3);
         x.believe(0, 6, 0);
         d.fraction("17: best is his best", x.off(0, 1, 0), x.off(0, 1, 1), 0, 1);
+        x.believe(0, 6, 9);
+        x.belief(1);
+        x.believe(1, 0, 10);
+        d.fraction("17: his own belief alone", x.off(0, 0, 0), x.off(0, 0, 1), 1, 3);
     }
 }

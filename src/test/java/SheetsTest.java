@@ -34,6 +34,17 @@ public final class SheetsTest {
         x.sheet(3, 1, 3);
         x.sheet(3, 1, 6);
         d.due("34: nought in each new one", x.get(3, 1, 5), 0);
+        x.sheet(1, 0, 48);
+        x.sheet(2, 0, 48);
+        for (int i = 0; i < 48; i++) {
+            x.put(1, 0, i, i + 1);
+            x.put(2, 0, i, i + 1);
+        }
+        x.sheet(1, 0, 48);
+        for (int i = 0; i < 48; i++) {
+            d.due("34: all nought", x.get(1, 0, i), 0);
+            d.due("34: not those of others", x.get(2, 0, i), i + 1);
+        }
         d.due("35: below", x.lose(-1), -2);
         d.due("35: above", x.lose(4), -2);
         d.due("35: had", x.lose(3), 6);
