@@ -135,6 +135,14 @@ public final class PeoplesTest {
             z.thing(7, 7, 7, 7);
         }
         d.due("27: six things", z.looked(), 166666);
+        TenCoins w = new TenCoins();
+        w.thing(0, 1, 1, 2);
+        tell(w, 0, 2);
+        tell(w, 1, 1);
+        tell(w, 2, 1);
+        tell(w, 3, 3);
+        d.due("26: like means, like numbers", w.goes(0), 1);
+        d.due("27: some orders do not go at all", w.looked(), 833333);
     }
 
     private static void story() {

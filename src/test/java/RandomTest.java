@@ -15,6 +15,8 @@ public final class RandomTest {
     private static PlainCoins y;
     private static int clock;
     private static int wildness;
+    private static int mostOffer;
+    private static int mostNumber;
     private static String pending = "";
 
     public static void main(String[] args) {
@@ -27,6 +29,9 @@ public final class RandomTest {
             clock = 0;
             pending = "";
             wildness = new int[] {0, 3, 12}[run % 3];
+            // Few offers and numbers make like means and like things.
+            mostOffer = run % 5 < 2 ? 2 : 10;
+            mostNumber = run % 5 < 2 ? 2 : 99;
             StringBuilder log = new StringBuilder();
             int favourite = chance.nextInt(NAMES.length);
             for (int call = 0; call < CALLS; call++) {
@@ -44,7 +49,7 @@ public final class RandomTest {
             }
         }
         for (int which = 0; which < NAMES.length; which++) {
-            if (wellAnswered[which] < RUNS / 2) {
+            if (wellAnswered[which] < RUNS / 4) {
                 System.out.println(NAMES[which] + " was seldom answered but by a refusal: " + wellAnswered[which]);
                 System.exit(1);
             }
@@ -55,6 +60,9 @@ public final class RandomTest {
     private static int pick(int favourite, boolean gamesToo) {
         if (gamesToo && !pending.isEmpty() && chance.nextInt(4) != 0) {
             return 16;
+        }
+        if (gamesToo && pending.isEmpty() && chance.nextInt(3) == 0) {
+            return y.fault() == -1 ? new int[] {19, 20, 21, 17}[chance.nextInt(4)] : 17;
         }
         int which = chance.nextInt(6) == 0 ? favourite : chance.nextInt(NAMES.length);
         for (int seldom : SELDOM) {
@@ -82,7 +90,12 @@ public final class RandomTest {
         if (chance.nextInt(3) == 0) {
             clock += chance.nextInt(6);
         }
-        return chance.nextInt(100) < wildness ? some(0, 999) : clock;
+        if (chance.nextInt(100) < wildness) {
+            // Seldom far ahead, for nothing can be told behind that.
+            int[] others = {clock - 1, clock - 5, clock + 1, -1, 1000, Integer.MIN_VALUE, Integer.MAX_VALUE};
+            return chance.nextInt(30) == 0 ? some(0, 999) : others[chance.nextInt(others.length)];
+        }
+        return clock;
     }
 
     private static int letter() {
@@ -92,6 +105,14 @@ public final class RandomTest {
         char next = pending.charAt(0);
         pending = pending.substring(1);
         return chance.nextInt(400) < wildness ? some(0, 255) : next;
+    }
+
+    private static String game() {
+        String text = node(3);
+        for (int k = 0; k < 5 && (text.length() > 60 || text.length() == 3); k++) {
+            text = node(3);
+        }
+        return text;
     }
 
     private static String node(int depth) {
@@ -108,10 +129,10 @@ public final class RandomTest {
 
     private static int[] arguments(int which) {
         switch (which) {
-            case 0: return new int[] {some(0, 3), some(0, 3) * chance.nextInt(2), some(0, 10), some(0, 1), time()};
+            case 0: return new int[] {some(0, 3), some(0, 3) * chance.nextInt(2), some(0, mostOffer), some(0, 1), time()};
             case 1: return new int[] {some(0, 3), some(0, 3), some(0, 3), time()};
             case 2: return new int[] {some(0, Math.max(0, y.count(0) - 1)), time()};
-            case 3: return new int[] {chance.nextInt(3) == 0 ? 999 : some(0, Math.min(999, clock + 3))};
+            case 3: return new int[] {chance.nextInt(2) == 0 ? 999 : some(0, Math.min(999, clock + 3))};
             case 4: return new int[] {people(), some(0, 3), some(0, 2)};
             case 5: return new int[] {people(), some(0, 3), some(0, 1)};
             case 6: return new int[] {people(), some(0, 3), some(0, 10), some(0, 1)};
@@ -128,7 +149,7 @@ public final class RandomTest {
             case 19: return new int[] {some(0, 40), some(0, 5)};
             case 20: return new int[] {some(0, 40), some(0, 4)};
             case 22: return new int[] {some(0, 3), some(0, 3)};
-            case 23: return new int[] {some(0, 9), some(0, 9), some(0, 99), some(0, 99)};
+            case 23: return new int[] {some(0, mostNumber), some(0, mostNumber), some(0, mostNumber), some(0, mostNumber)};
             case 24: return new int[] {some(0, 5)};
             case 26: return new int[] {some(0, 2), some(0, 2), some(1, 15)};
             case 27: return new int[] {people(), some(0, 2), some(0, 1)};
@@ -149,7 +170,7 @@ public final class RandomTest {
 
     private static long ask(int which, int[] a, boolean program) {
         if (which == 17 && program) {
-            pending = node(3);
+            pending = game();
         }
         switch (which) {
             case 0: return program ? x.pair(a[0], a[1], a[2], a[3], a[4]) : y.pair(a[0], a[1], a[2], a[3], a[4]);
