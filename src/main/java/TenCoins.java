@@ -965,7 +965,6 @@ public final class TenCoins {
             owner[nodes] = player;
             within[nodes] = open;
             kids[nodes] = 0;
-            place[nodes] = 0;
             if (open != NONE) {
                 place[nodes] = kids[open];
                 kids[open]++;

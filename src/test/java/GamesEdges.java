@@ -112,6 +112,7 @@ final class GamesEdges extends Edges {
             faultOf(x, "1", 1);
             faultOf(x, "12", 2);
             faultOf(x, "g(".repeat(30), 60);
+            faultOf(x, "g(".repeat(28) + "123", 59);
             faultOf(x, SIXTY.substring(0, 59), 59);
             x.wipe();
             due("empty again", x.fault(), 0);
@@ -245,6 +246,7 @@ final class GamesEdges extends Edges {
             temperOf(x, "a(190,000)", NONE);
             temperOf(x, "a(000,190)", NONE);
             temperOf(x, "a(990,880)", NONE);
+            temperOf(x, "a(110,910)", NONE);
             temperOf(x, "a(980,970)", NONE);
         });
     }

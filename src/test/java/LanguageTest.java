@@ -67,6 +67,10 @@ public final class LanguageTest {
             holds(Modifier.isStatic(modifiers) && !Modifier.isPublic(modifiers) && !Modifier.isProtected(modifiers), c + "");
             long fields = List.of(c.getDeclaredFields()).stream().filter(f -> !Modifier.isStatic(f.getModifiers())).count();
             holds(fields <= 20, "fields of " + c + ": " + fields);
+            for (Method inside : c.getDeclaredMethods()) {
+                boolean isPublicName = List.of(TenCoins.class.getMethods()).stream().anyMatch(m -> m.getName().equals(inside.getName()));
+                holds(!isPublicName, c + " has a method of the face's name " + inside.getName());
+            }
         }
     }
 

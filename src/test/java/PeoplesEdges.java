@@ -167,6 +167,22 @@ final class PeoplesEdges extends Edges {
             x.thing(7, 7, 7, 7);
             due("a thing that never goes", x.looked(), 166666);
         });
+        edge(TERMS, "of all orders of the MEANS over these PEOPLES", x -> {
+            x.thing(1, 1, 2, 5);
+            tell(x, 0, 0, 1, 1);
+            tell(x, 1, 0, 1, 2);
+            tell(x, 2, 0, 1, 3);
+            due("those without a mean keep out: four of six", x.looked(), 666666);
+        });
+        edge(TERMS, "the greatest amount of GOES of all THINGS", x -> {
+            x.thing(0, 1, 1, 2);
+            int[] means = {2, 1, 1, 3};
+            for (int people = 0; people < 4; people++) {
+                tell(x, people, 0, 1, means[people]);
+            }
+            due("one more together than the other way", x.goes(0), 1);
+            due("four orders of 24 do not go at all", x.looked(), 833333);
+        });
         edge(TERMS, "is as great as it is, or greater; in millionths, cut.", x -> {
             for (int people = 0; people < 4; people++) {
                 tell(x, people, 0, 1, people);

@@ -290,7 +290,9 @@ final class RefusalsEdges extends Edges {
             due("the greatest offer is told", x.digest() == y.digest() ? 1 : 0, 0);
         });
         edge(41, "reckon(0, 0 to 5), reckon(4, 0 to 2), temper() (as they are told);", x -> {
-            for (String text : new String[] {"", "g(", "820", "a(980,000)", "g(a(820,000),a(550,000))", "t(1234"}) {
+            String[] texts = {"", "g(", "820", "a(980,000)", "g(a(820,000),a(550,000))", "t(1234", "a(900,000)", "g(700,890)",
+                "g(890,700)"};
+            for (String text : texts) {
                 typeAll(x, text);
                 due("digest with " + text, x.digest(), asTold(x));
             }

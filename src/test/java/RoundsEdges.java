@@ -89,6 +89,12 @@ final class RoundsEdges extends Edges {
             law(x, 1, 0, 1);
             rounds(x, 5, 1, 4, 1, 2, 0);
             law(x, 0, 1, 1);
+            rounds(x, 5, 0, 8, 1, 5, 1);
+            law(x, 3, 3, 0);
+            rounds(x, 5, 0, 4, 1);
+            law(x, 0, 0, 1);
+            rounds(x, 5, 1, 6, 1);
+            law(x, 0, 0, 1);
         });
     }
 

@@ -117,6 +117,11 @@ final class SheetsEdges extends Edges {
             due("nought behind losing it", x.get(2, 0, 47), 0);
             due("others stay", x.lose(1), 1);
         });
+        edge(34, "A SHEET is a new row of a FORM with n items:", x -> {
+            for (int anew = 0; anew < 4; anew++) {
+                allNought(anew);
+            }
+        });
         edge(34, "BAD: SHEET, FORM, above 48;", x -> {
             bounds("sheet", 0, 3, v -> x.sheet(v, 0, 1), BAD);
             bounds("form", 0, 2, v -> x.sheet(0, v, 1), BAD);
@@ -135,6 +140,22 @@ final class SheetsEdges extends Edges {
             due("BAD form goes ahead", x.sheet(0, 3, -1), BAD);
             due("noted", x.count(8), 2);
         });
+    }
+
+    private static void allNought(int anew) {
+        TenCoins x = new TenCoins();
+        for (int s = 0; s < 4; s++) {
+            x.sheet(s, 1, 48);
+            for (int i = 0; i < 48; i++) {
+                x.put(s, 1, i, 100 * s + i + 1);
+            }
+        }
+        x.sheet(anew, 1, 48);
+        for (int s = 0; s < 4; s++) {
+            for (int i = 0; i < 48; i++) {
+                due("sheet " + anew + " anew, item " + i + " of " + s, x.get(s, 1, i), s == anew ? 0 : 100 * s + i + 1);
+            }
+        }
     }
 
     private static void lose() {
@@ -410,6 +431,7 @@ final class SheetsEdges extends Edges {
             x.sheet(0, 0, 48);
             due("48 of sixty", x.write(0, 0, 0), 48);
             due("the 48th", x.get(0, 0, 47), 47 % 11);
+            due("none of sixty, with room", x.write(2, 0, 0), 0);
         });
         edge(39, "BAD;", x -> {
             for (int s = 0; s < 4; s++) {
