@@ -962,6 +962,7 @@ public final class TenCoins {
         }
 
         private void startNode(int player) {
+            // There is room: each node begins with a byte of its own, and there is a place for each byte of the text.
             owner[nodes] = player;
             within[nodes] = open;
             kids[nodes] = 0;
@@ -1025,22 +1026,21 @@ public final class TenCoins {
             for (int node = nodes - 1; node >= 0; node--) {
                 end[node] = pick[node] == NONE ? node : end[pick[node]];
                 int up = within[node];
-                if (up != NONE && (pick[up] == NONE || isNoWorse(node, pick[up], owner[up], anger))) {
+                // Like is enough, for what was picked so far stands behind the node, and the first is to be taken.
+                if (up != NONE
+                    && (pick[up] == NONE || worth(node, owner[up], anger) >= worth(pick[up], owner[up], anger))) {
                     pick[up] = node;
                 }
             }
         }
 
-        /** Like is enough, for what was picked so far stands behind the node, and the first is to be taken. */
-        private boolean isNoWorse(int node, int picked, int player, int anger) {
-            return worth(end[node], player, anger) >= worth(end[picked], player, anger);
-        }
-
-        private int worth(int ofEnd, int player, int anger) {
-            int own = figures[ofEnd * PLAYERS + player];
+        /** Of the end that a settled node comes to. */
+        private int worth(int node, int player, int anger) {
+            int start = end[node] * PLAYERS;
+            int own = figures[start + player];
             int most = own;
             for (int other = 0; other < PLAYERS; other++) {
-                most = Math.max(most, figures[ofEnd * PLAYERS + other]);
+                most = Math.max(most, figures[start + other]);
             }
             return 4 * own - anger * (most - own);
         }
